@@ -117,6 +117,10 @@ final class PlansTest {
         k.fine("evening is his", k.it.game(1, 1), 1);
         k.fine("nail ends both others", k.it.firstMove(1, 1), 0);
         k.fine("then lamp goes", k.it.game(1, 2), 0);
+        k.fine("another game", k.it.game(7, 2), 1);
+        k.fine("a first move behind another game", k.it.firstMove(0, 1), 0);
+        k.fine("a game behind another first move", k.it.game(7, 1), 3);
+        k.fine("a first move by other turns", k.it.firstMove(7, 2), moveOfNew(7, 2));
         k.fine("nothing is unmade by it", k.it.many(7), 0);
         Kit spared = Kit.of("thing a exempt;work w needs a;");
         spared.fine("all pass", spared.it.game(1, 4), 1);
@@ -125,6 +129,11 @@ final class PlansTest {
         Kit one = Kit.of("thing a;work w needs a;");
         one.fine("he must", one.it.game(1, 1), 0);
         one.fine("first move", one.it.firstMove(1, 4), 0);
+    }
+
+    /** The first move that a new object tells. */
+    private static int moveOfNew(int works, int turns) {
+        return Kit.of(TextsTest.TOWN).it.firstMove(works, turns);
     }
 
     private static void again() {

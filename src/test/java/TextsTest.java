@@ -86,6 +86,17 @@ final class TextsTest {
         k.feed(" ".repeat(320));
         k.refused("centuries(301)", k.it.centuries(301), 5);
         k.fine("centuries(300)", k.it.centuries(300), 0);
+        k.fine("another city", k.city("thing hat;thing nail;work walk needs hat;"), 2);
+        k.refused("no name of the old one", k.centuries("unmake lamp;"), 10);
+        k.fine("names of the new one", k.centuries("unmake nail;when done walk;joke;end;"), 3);
+        k.fine("lived", k.it.live(0), 3);
+        k.fine("by its numbers", k.it.many(7), 3);
+        k.fine("and one more city", k.city("thing nail;thing hat;work trade needs hat;"), 2);
+        k.refused("no work of that ahead", k.centuries("when done walk;end;"), 10);
+        k.fine("its own", k.centuries("when done trade;unmake nail;end;"), 2);
+        k.fine("lived", k.it.live(0), 2);
+        k.fine("by its numbers", k.it.many(7), 1);
+        k.fine("the town", k.city(TOWN), 8);
         k.fine("ends are no steps", k.centuries("loop 2;when stands oil;year 1;end;end;"), 3);
     }
 
