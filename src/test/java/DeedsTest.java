@@ -5,6 +5,7 @@ final class DeedsTest {
         makings();
         exemptions();
         grudgesAndLaws();
+        whatWasFoundByOtherLawsCountsNoMore();
         votesByLaws();
         votesByRounds();
         swaying();
@@ -94,6 +95,19 @@ final class DeedsTest {
         k.fine("rule(2)", k.it.rule(2));
         k.fine("law", k.it.many(4), 2);
         k.fine("rule(2) again", k.it.rule(2));
+    }
+
+    private static void whatWasFoundByOtherLawsCountsNoMore() {
+        Kit k = Kit.of("thing a;thing b;voter u;voter v;voter w;hates u a 1;hates v a 1;hates w b 9;");
+        k.fine("law 0 names a", k.it.later(1), 2);
+        k.fine("rule(1)", k.it.rule(1));
+        k.fine("law 1 names b", k.it.later(1), 1);
+        k.fine("rule(0)", k.it.rule(0));
+        k.fine("law 0 names a again", k.it.later(1), 2);
+        k.fine("u hates b", k.it.grudge(0, 1, 2));
+        k.fine("b has two votes", k.it.later(1), 1);
+        k.fine("u hates b no more", k.it.grudge(0, 1, 0));
+        k.fine("a has two votes", k.it.later(1), 2);
     }
 
     private static void votesByLaws() {

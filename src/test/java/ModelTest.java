@@ -7,11 +7,13 @@ final class ModelTest {
     private final Kit k = new Kit();
     private final Random r;
     private final Model m;
+    private final boolean whole;
     private final ModelPlans plans;
 
-    private ModelTest(Random random, Model model) {
+    private ModelTest(Random random, Model model, boolean plansToo) {
         r = random;
         m = model;
+        whole = plansToo;
         plans = new ModelPlans(m);
     }
 
@@ -20,10 +22,33 @@ final class ModelTest {
             Random r = new Random(seed);
             Model m = Model.byChance(r, seed % 10 == 0 ? 12 : 6);
             if (m.text.length() <= 900) {
-                new ModelTest(r, m).compare();
+                new ModelTest(r, m, false).compare();
             }
         }
+        largeOnes();
         Kit.end("ModelTest");
+    }
+
+    /** Cities with nearly as much as can be, so that plans are compared there, too. */
+    private static void largeOnes() {
+        int left = 12;
+        for (int seed = CITIES; left > 0; seed++) {
+            Random r = new Random(seed);
+            Model m = Model.byChance(r, 12);
+            if (m.n >= (left % 2 == 0 ? 12 : 11) && m.text.length() <= 900 && m.works.size() > 2 && m.voters() > 3) {
+                new ModelTest(r, m, true).compare();
+                left--;
+            }
+        }
+    }
+
+    /** At most six of a set. */
+    private static int fewOf(int set) {
+        int few = set;
+        while (Integer.bitCount(few) > 6) {
+            few &= few - 1;
+        }
+        return few;
     }
 
     private void compare() {
@@ -33,9 +58,11 @@ final class ModelTest {
             compareState();
             compareVotes();
             compareFalls();
-            if (m.n <= 6) {
+            if (m.n <= 6 || whole) {
                 comparePlans();
                 comparePast();
+            }
+            if (m.n <= 6) {
                 compareOrders();
             }
             compareLives();
@@ -174,7 +201,7 @@ final class ModelTest {
             perhaps("strikeSet(" + w + ")", k.it.strikeSet(w), struck);
             perhaps("strike", k.it.strike(w), struck < 0 ? struck : Integer.bitCount(struck));
         }
-        int set = m.n == 0 ? 0 : r.nextInt(1 << m.n) & m.stands(m.unmade);
+        int set = m.n == 0 ? 0 : fewOf(r.nextInt(1 << m.n) & m.stands(m.unmade));
         if (set != 0) {
             int[] agenda = plans.agenda(set);
             k.fine(at("agenda(" + set + ")"), k.it.agenda(set), agenda[agenda.length - 1]);
@@ -201,7 +228,7 @@ final class ModelTest {
             k.fine(at("wasIt(" + fell + ")"), k.it.wasIt(fell), plans.wasIt(fell));
         }
         for (int i = 0; i < 4 && m.n > 0; i++) {
-            int set = i == 0 ? up : r.nextInt(1 << m.n) & up;
+            int set = fewOf(i == 0 ? up : r.nextInt(1 << m.n) & up);
             if (set == 0) {
                 k.refused(at("sure of none"), k.it.sure(set), 5);
             } else {

@@ -159,6 +159,13 @@ final class PlansTest {
         ways.fine("of several the least number", ways.it.againSet(3), 12);
         ways.it.unmake(2);
         ways.fine("the other one", ways.it.againSet(3), 18);
+        StringBuilder chain = new StringBuilder("thing a;");
+        for (char c = 'b'; c < 'm'; c++) {
+            chain.append("thing ").append(c).append(";makes ").append(c).append(" from ").append((char) (c - 1)).append(';');
+        }
+        Kit twelve = Kit.of(chain.toString());
+        twelve.fine("a chain of eleven", twelve.it.again(11), 11);
+        twelve.fine("all of them", twelve.it.againSet(11), 2047);
         Kit loop = Kit.of("thing a;thing b;thing c;makes a from b;makes b from a;makes b from c;");
         loop.fine("not from each other", loop.it.againSet(0), 5);
     }

@@ -8,6 +8,7 @@ final class RefusalTest {
     private static final String[] CITIES = {
         TextsTest.TOWN,
         TextsTest.TOWN + "law 2;",
+        full(),
         "thing a;thing b;thing c;makes a from b;makes b from a;ahead a b;ahead b a;voter v;hates v c 3;work w needs c;",
         "",
         "thing a exempt;thing a;",
@@ -26,6 +27,27 @@ final class RefusalTest {
     private final Random r;
     private final Kit a = new Kit();
     private final Kit b = new Kit();
+
+    /** A city with as much of all as can be. */
+    private static String full() {
+        StringBuilder b = new StringBuilder();
+        for (char c = 'a'; c < 'm'; c++) {
+            b.append("thing ").append(c).append(";");
+        }
+        for (int i = 0; i < 16; i++) {
+            b.append("makes ").append((char) ('d' + i % 9)).append(" from ").append((char) ('a' + i % 3)).append(";");
+        }
+        for (char c = 'n'; c < 't'; c++) {
+            b.append("work ").append(c).append(" needs ").append((char) (c - 7)).append(" ").append((char) (c - 8)).append(";");
+        }
+        for (char c = 't'; c <= 'y'; c++) {
+            b.append("voter ").append(c).append(";");
+            for (int i = 0; i < 4; i++) {
+                b.append("hates ").append(c).append(" ").append((char) ('a' + (c * 5 + i * 7) % 12)).append(" ").append(9 - i).append(";");
+            }
+        }
+        return b.toString();
+    }
 
     private RefusalTest(long seed) {
         r = new Random(seed);
@@ -150,8 +172,8 @@ final class RefusalTest {
             case 57: return x.back();
             case 58: return x.live(Math.floorMod(p[0], 10000));
             case 59: return x.agenda(Math.floorMod(p[0], 64));
-            case 60: return x.tells(Math.floorMod(p[0], 256));
-            default: return x.sure(Math.floorMod(p[0], 256));
+            case 60: return x.tells(Math.floorMod(p[0] * 31, 4096));
+            default: return x.sure(Math.floorMod(p[0] * 31, 4096));
         }
     }
 }

@@ -126,6 +126,12 @@ final class TextsTest {
         cityFault("thing a" + (char) 0 + ";", 1, 7);
         cityFault("thing a worth 12345;", 1, 14);
         cityFault("thing 12345;", 1, 6);
+        cityTaken("thing zz;thing az;thing a worth 90;thing b worth 09;", 4);
+        cityFault("thing a`;", 1, 7);
+        cityFault("thing a{;", 1, 7);
+        cityFault("thing a worth 1/;", 1, 15);
+        cityFault("thing a worth 1:;", 1, 15);
+        cityFault("thing a worth 1?;", 1, 15);
         cityFault("a 12345", 2, 0);
         cityFault("thing", 2, 5);
         cityFault("thing  ", 2, 7);
@@ -282,6 +288,10 @@ final class TextsTest {
         centuryFault(thirty + "loop", 6, 150);
         centuryFault(thirty + "thing", 2, 150);
         centuryFault(thirty + "end;", 2, 150);
+        k.refused("two that are not ended", k.centuries("loop 1;loop 1;"), 10);
+        k.refused("are not ended by the next text", k.centuries("end;"), 10);
+        Kit.due("at its end", k.it.fault(1), 0);
+        k.refused("four that are not ended", k.centuries("loop 1;loop 1;loop 1;"), 10);
         k.fine("three within each other", k.centuries("loop 1;when done cross;loop 1;end;loop 2;end;end;end;"), 4);
         centuryFault("loop 1;when done cross;loop 1;when", 7, 30);
         centuryFault("loop 1;when done cross;loop 1;end;loop 2;loop", 7, 41);
