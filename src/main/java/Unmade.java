@@ -2010,12 +2010,12 @@ public final class Unmade {
             }
             findFelling(set);
             Arrays.fill(rows, NONE);
-            return looksFor(set);
+            return looksFor(set, 0);
         }
 
         /** How many looks tell which of these, that all fall unlike; each look leaves fewer, so it ends. */
-        private int looksFor(int set) {
-            if (Integer.bitCount(set) <= 1) {
+        private int looksFor(int set, int depth) {
+            if (Integer.bitCount(set) <= 1 || depth >= MOST_THINGS) {
                 return 0;
             }
             if (rows[set] != NONE) {
@@ -2025,7 +2025,7 @@ public final class Unmade {
             for (int t = 0; t < city.things; t++) {
                 int fallen = set & felling[t];
                 if (fallen != 0 && fallen != set) {
-                    least = Math.min(least, 1 + Math.max(looksFor(fallen), looksFor(set & ~fallen)));
+                    least = Math.min(least, 1 + Math.max(looksFor(fallen, depth + 1), looksFor(set & ~fallen, depth + 1)));
                 }
             }
             rows[set] = least;
