@@ -17,6 +17,8 @@ final class EdgesDeedsTest {
         grudgeRefused();
         grudgeByZeroToNine();
         rules();
+        seenInTheNextVote();
+        eachNamedInTurn();
         takenBackByItsContrary();
         Kit.end("EdgesDeedsTest");
     }
@@ -304,6 +306,57 @@ final class EdgesDeedsTest {
         next.it.rule(2);
         next.fine("another city", next.city("thing a;"), 1);
         next.fine("its own LAW", next.it.many(4), 0);
+    }
+
+    /** A number and a LAW that are told count from now on, in what will be, too. */
+    private static void seenInTheNextVote() {
+        Kit k = Kit.of("thing a;thing b;thing c;voter u;voter v;voter w;hates u a 1;hates v a 1;hates w b 9;work x needs b;");
+        future(k, 0, 0b110);
+        k.fine("rule(1)", k.it.rule(1));
+        future(k, 1, 0b101);
+        k.fine("grudge", k.it.grudge(0, 2, 9));
+        future(k, 1, 0b101);
+        k.fine("grudge", k.it.grudge(1, 2, 1));
+        future(k, 2, 0b011);
+        k.fine("rule(0)", k.it.rule(0));
+        future(k, 0, 0b110);
+        k.fine("grudge", k.it.grudge(2, 1, 0));
+        future(k, 0, 0b110);
+        k.fine("exempt", k.it.exempt(0, true));
+        future(k, 2, 0b011);
+        k.fine("unmake", k.it.unmake(2), 4);
+        k.refused("none is left", k.it.vote(), 8);
+        k.fine("later(1)", k.it.later(1), 3);
+        k.fine("remake", k.it.remake(2), 4);
+        future(k, 2, 0b011);
+    }
+
+    /** Each of twelve is named in turn, by a number told anew; by each LAW. */
+    private static void eachNamedInTurn() {
+        for (int law = 0; law <= 2; law++) {
+            Kit k = Kit.of("thing a;thing b;thing c;thing d;thing e;thing f;thing g;thing h;thing i;thing j;thing k;thing l;voter v;law " + law + ";");
+            for (int round = 0; round < 3; round++) {
+                for (int t = 0; t < 12; t++) {
+                    int thing = round == 1 ? 11 - t : t;
+                    k.fine("grudge", k.it.grudge(0, thing, 9 - round));
+                    k.fine("later(1)", k.it.later(1), 4095 & ~(1 << thing));
+                    k.fine("later(99)", k.it.later(99), 4095 & ~(1 << thing));
+                    k.fine("grudge", k.it.grudge(0, thing, 0));
+                }
+            }
+        }
+    }
+
+    private static void future(Kit k, int named, int left) {
+        k.fine("vote()", k.it.vote(), named);
+        k.fine("later(1)", k.it.later(1), left);
+        k.fine("goneBy", k.it.goneBy(named), 1);
+        if (named == 1) {
+            k.fine("ends", k.it.ends(0), 1);
+            k.fine("keepSet", k.it.keepSet(0, 1), 2);
+        } else {
+            k.fine("keepSet", k.it.keepSet(0, 1), 0);
+        }
     }
 
     /** What is done and undone leaves nothing. */

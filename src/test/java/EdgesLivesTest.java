@@ -190,6 +190,11 @@ final class EdgesLivesTest {
         lives(city, "unmake a;remake c;remake a;remake a;", 0, 4, 2, 0, 1, 0, 0);
         lives(city, "spare b;unmake b;spare b;remake b;remake b;", 0, 5, 1, 0, 1, 0, 0);
         lives(city, "spare a;spare a;unmake a;", 0, 3, 0, 0, 1, 0, 0);
+        Kit both = lives(city, "unmake c;unmake a;", 0, 2, 0, 0, 2, 0, 0);
+        both.fine("both are UNMADE", both.it.many(7), 5);
+        both.centuries("remake a;");
+        both.fine("live", both.it.live(0), 1);
+        both.fine("one is UNMADE", both.it.many(7), 4);
         Kit each = lives(city, "loop 5;unmake a;remake a;end;", 0, 11, 0, 0, 5, 0, 0);
         each.fine("nothing is left of it", each.it.many(7), 0);
         Kit spared = lives(city, "spare a;spare b;spare c;", 0, 3, 0, 0, 0, 0, 0);

@@ -130,6 +130,17 @@ final class EdgesPastTest {
         k.fine("EXEMPT ones are looked at, too", k.it.tells(63), 6);
         k.it.exempt(3, true);
         k.fine("and may be in the set", k.it.tells(63), 6);
+        // by what STANDS now, not by what was told ahead
+        k.it.exempt(6, false);
+        k.it.unmake(6);
+        k.fine("g is no more: h is left", k.it.tells(63), 7);
+        k.fine("sure without g", k.it.sure(63), 4);
+        k.it.unmake(7);
+        k.fine("h is no more: one after another", k.it.tells(63), 0);
+        k.fine("sure without g and h", k.it.sure(63), 5);
+        k.it.remake(6);
+        k.fine("g again", k.it.tells(63), 6);
+        k.fine("sure with g: three and three", k.it.sure(63), 3);
     }
 
     // ---- 47: sure
@@ -181,6 +192,16 @@ final class EdgesPastTest {
         eight.fine("eight by three", eight.it.sure(255), 3);
         eight.fine("with those that are made from them", eight.it.sure(2047), 4);
         Edges.asks("sure(237)", Edges::rich, x -> x.sure(237), 3);
+        // what falls with all of them, or with none, tells nothing
+        Kit all = Kit.of(things(6) + "makes f from a b c d e;");
+        all.fine("one after another, of five", all.it.sure(31), 4);
+        all.fine("of four", all.it.sure(15), 3);
+        all.fine("with f: it falls with each", all.it.sure(63), 5);
+        Kit two = Kit.of(things(4) + "makes c from a d;makes b from a c;makes c from b;");
+        two.fine("b and c fall with a and d", two.it.sure(15), 3);
+        Kit last = Kit.of(things(6) + "makes d from a f;makes a from e;makes f from a b c;");
+        last.fine("b to e", last.it.sure(30), 3);
+        last.fine("all six", last.it.sure(63), 4);
     }
 
     // ---- 48 to 50: histories, firsts, clash

@@ -359,6 +359,26 @@ final class EdgesPlansTest {
         k.fine("the first is EXEMPT", k.it.firstMove(3, 1), 1);
         k.it.unmake(1);
         k.fine("the second is UNMADE", k.it.firstMove(3, 1), 2);
+        // to have w he must end what the other would end it by
+        Kit reply = Kit.of("thing a;thing b;thing c exempt;thing d;thing e;makes d from c b;makes e from a;work w needs d;work x needs e;work y needs e;");
+        for (int turns = 1; turns <= 4; turns++) {
+            Model model = asModel();
+            ModelPlans plans = new ModelPlans(model);
+            for (int works = 0; works < 8; works++) {
+                reply.fine("game(" + works + ", " + turns + ")", reply.it.game(works, turns), plans.game(works, 0, turns, true));
+                reply.fine("firstMove(" + works + ", " + turns + ")", reply.it.firstMove(works, turns), plans.firstMove(works, turns));
+            }
+        }
+        // a alone keeps the other from unmaking c, that is his: b is as good but for that
+        Kit forced = Kit.of("thing a;thing b;work w needs a;work x needs a;work y needs b;");
+        forced.fine("he wants y, the other x and w", forced.it.game(4, 2), 0);
+        forced.fine("a goes first", forced.it.firstMove(4, 2), 0);
+        forced.fine("with three turns", forced.it.game(3, 3), 0);
+        Kit last = Kit.of("thing a;thing b;thing c;work w needs b;work x needs c;");
+        last.fine("a goes, the other ends w or x", last.it.game(3, 2), 1);
+        last.fine("a first", last.it.firstMove(3, 2), 0);
+        last.fine("of w alone: c goes, then b", last.it.game(1, 2), 0);
+        last.fine("a first would leave x", last.it.firstMove(1, 2), 2);
         // nail, lamp, boat, cart: each ends one of both that can be DONE
         Edges.asks("firstMove(7, 1)", Edges::rich, x -> x.firstMove(7, 1), 0);
         Edges.asks("game(7, 1)", Edges::rich, x -> x.game(7, 1), 1);
@@ -366,6 +386,18 @@ final class EdgesPlansTest {
         Edges.asks("game(1, 1)", Edges::rich, x -> x.game(1, 1), 1);
         Edges.asks("game(0, 1)", Edges::rich, x -> x.game(0, 1), -1);
         Edges.asks("game(2, 4)", Edges::rich, x -> x.game(2, 4), 0);
+    }
+
+    private static Model asModel() {
+        Model m = new Model();
+        m.n = 5;
+        m.exempt = 4;
+        m.makings.add(new int[] {3, 6});
+        m.makings.add(new int[] {4, 1});
+        m.works.add(8);
+        m.works.add(16);
+        m.works.add(16);
+        return m;
     }
 
     // ---- 43 and 44: again
@@ -426,6 +458,12 @@ final class EdgesPlansTest {
         k.fine("0 with 3, or 1 with 2", k.it.againSet(3), 6);
         k.it.unmake(2);
         k.fine("without c", k.it.againSet(3), 9);
+        Kit first = Kit.of(things(4, "") + "makes d from b;makes b from a;makes d from c;makes c from a;");
+        first.fine("0 with 1, or 2 with 3", first.it.againSet(3), 3);
+        Kit mixed = Kit.of(things(5, "") + "makes e from b c;makes b from a;makes c from a;makes e from d;makes d from c;makes c from a;");
+        mixed.fine("three either way: 0, 1 and 2 are the least", mixed.it.againSet(4), 7);
+        mixed.it.unmake(1);
+        mixed.fine("3, 4, and 2 of two alike", mixed.it.againSet(4), 4 | 8 | 16);
         Kit fewer = Kit.of(things(4, "") + "makes c from a;makes d from c;makes d from a b;");
         fewer.fine("one, though a greater number", fewer.it.againSet(3), 4);
         fewer.it.unmake(1);

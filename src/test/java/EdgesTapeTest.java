@@ -17,6 +17,8 @@ final class EdgesTapeTest {
         centuriesUpToThreeHundred();
         refusedTextsChangeNothingElse();
         cityTakenInPlaceOfThatAhead();
+        citiesOneAfterAnother();
+        foundInAnotherCity();
         centuriesTakenInPlaceOfThoseAhead();
         faultOfWhat();
         faultOfTheLatestWithNothingOrTen();
@@ -49,6 +51,11 @@ final class EdgesTapeTest {
         Kit.due("the fault", faulty.it.fault(0), 5);
         Kit.due("its place", faulty.it.fault(1), 20);
         Kit.due("and it can be fed", blanks(faulty), 20);
+        Edges.alike("behind a refused feed", () -> {
+            Kit one = Edges.full();
+            Kit.due("refused", one.it.feed(0x78787878, 0, 0, 0, 0), Unmade.NONE);
+            return one;
+        }, Edges::full);
         Kit bound = Edges.full();
         bound.refused("5 does not empty it", bound.it.city(901), 5);
         bound.refused("5 does not empty it", bound.it.centuries(301), 5);
@@ -295,6 +302,53 @@ final class EdgesTapeTest {
                 return k;
             }, own);
         }
+    }
+
+    /** Nothing of a city is left in those behind it, however many there are, and however many had a fault. */
+    private static void citiesOneAfterAnother() {
+        String small = "thing a;thing b;voter u;work w needs a;makes b from a;";
+        Edges.Look[] kept = {Edges.Look.MARKS};
+        for (int order = 0; order < 64; order++) {
+            int bits = order;
+            Edges.alike("of the last of six, by order " + order, () -> {
+                Kit k = new Kit();
+                for (int n = 0; n < 6; n++) {
+                    boolean large = (bits >> n & 1) != 0;
+                    k.city(large ? Edges.fullText() + (n % 2 == 0 ? "ahead b a;ahead l b;" : "law 1;") : "law 2;thing l exempt;voter u;hates u l 9;");
+                    k.it.unmake(0);
+                    k.it.later(3);
+                    k.it.vote();
+                    k.it.year(2);
+                    k.centuries("joke;");
+                }
+                k.city(small);
+                return k;
+            }, () -> Kit.of(small), kept);
+        }
+    }
+
+    /** What was found of what will be in one city is not told of another with as many things, nor behind back(). */
+    private static void foundInAnotherCity() {
+        String two = "thing a;thing b;voter v;work w needs a;work x needs b;hates v ";
+        Kit k = Kit.of(two + "a 9;");
+        k.fine("a is named", k.it.later(1), 2);
+        k.fine("w ends", k.it.ends(0), 1);
+        k.fine("mark()", k.it.mark(), 1);
+        k.fine("another city", k.city(two + "b 9;makes b from a;"), 2);
+        k.fine("b is named", k.it.later(1), 1);
+        k.fine("b falls with a", k.it.falls(0), 3);
+        k.fine("x ends", k.it.ends(1), 1);
+        k.fine("back()", k.it.back(), 0);
+        k.fine("a is named", k.it.later(1), 2);
+        k.fine("a falls alone", k.it.falls(0), 1);
+        k.fine("mark()", k.it.mark(), 1);
+        k.fine("he hates a no more", k.it.grudge(0, 0, 0));
+        k.fine("now none is named", k.it.later(1), 3);
+        k.fine("he hates b", k.it.grudge(0, 1, 1));
+        k.fine("b is named", k.it.later(1), 1);
+        k.fine("back()", k.it.back(), 0);
+        k.fine("a is named", k.it.later(1), 2);
+        k.fine("no more than a", k.it.later(2), 2);
     }
 
     /** How many STEPS; the CENTURIES told ahead are gone, the city stays. */

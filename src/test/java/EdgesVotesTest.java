@@ -257,6 +257,16 @@ final class EdgesVotesTest {
         spared.fine("what is exempt counts not", spared.it.sway(2), 5);
         Kit own = hating("a b", 1, "b9");
         own.fine("his own numbers count not", own.it.sway(0), 3);
+        for (int t = 0; t < 4; t++) {
+            // eleven by others: none but it, whichever it is; ten: the first of it and those as many
+            char c = (char) ('a' + t);
+            Kit far = hating("a b c d", 1, c + "9", c + "2", c + "9");
+            far.fine("against eleven", far.it.sway(2), 1 << t);
+            far.fine("by nine of eleven with his own nine", far.it.sway(0), 1 << t);
+            far.it.grudge(2, t, 0);
+            far.fine("against two", far.it.sway(0), 15);
+            far.fine("against nine", far.it.sway(1), (2 << t) - 1);
+        }
         Kit full = hating("a b c d e f g h i j k l", 1, "l9", "", "", "", "", "");
         full.fine("nine and as many: all ahead of it", full.it.sway(5), 4095);
         full.it.grudge(1, 11, 1);

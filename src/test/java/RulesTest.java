@@ -56,6 +56,11 @@ final class RulesTest {
         none("missing", missing);
         had.removeAll(due);
         none("too many", had);
+        for (Class<?> inside : Unmade.class.getDeclaredClasses()) {
+            for (Method method : inside.getDeclaredMethods()) {
+                hidden.add(method.getName());
+            }
+        }
         hidden.retainAll(publicNames);
         none("a private method with a public one's name", hidden);
         Kit.due("public and final", Unmade.class.getModifiers() & (Modifier.PUBLIC | Modifier.FINAL), Modifier.PUBLIC | Modifier.FINAL);
